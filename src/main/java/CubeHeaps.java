@@ -138,28 +138,28 @@ public final class CubeHeaps {
     }
 
     public long heaps() {
-        return fitting.all();
+        return fitted().all();
     }
 
     public long with(int cell, int height) {
         if (noCell(cell)) return UNKNOWN;
         if (height < 0 || height > HIGHEST) return OUTSIDE;
-        return fitting.having(cell, height);
+        return fitted().having(cell, height);
     }
 
     public int span(int cell, boolean most) {
         if (noCell(cell)) return UNKNOWN;
-        return fitting.extreme(cell, most);
+        return fitted().extreme(cell, most);
     }
 
     public int count(boolean most) {
-        if (fitting.all() == 0) return NONE;
+        if (fitted().all() == 0) return NONE;
         return most ? fitting.mostCubes() : fitting.fewestCubes();
     }
 
     public int lay(int slot, long place) {
         if (noSlot(slot)) return UNKNOWN;
-        if (place < 0 || place >= fitting.all()) return OUTSIDE;
+        if (place < 0 || place >= fitted().all()) return OUTSIDE;
         fitting.fill(slots[slot], place);
         return ground.total(slots[slot]);
     }
@@ -167,7 +167,7 @@ public final class CubeHeaps {
     public long place(int slot) {
         if (noSlot(slot)) return UNKNOWN;
         if (!told.agrees(slots[slot])) return STATE;
-        return fitting.smaller(slots[slot]);
+        return fitted().smaller(slots[slot]);
     }
 
     // ---- told by sums
@@ -239,6 +239,11 @@ public final class CubeHeaps {
             case 4: return ground.cells();
             default: return OUTSIDE;
         }
+    }
+
+    private Fitting fitted() {
+        fitting.refresh();
+        return fitting;
     }
 
     private static boolean noSlot(int slot) {
@@ -322,7 +327,7 @@ public final class CubeHeaps {
         }
 
         int onLine(boolean column, int line, int i) {
-            return column ? at(line, i) : at(i, line);
+            return column ? i * wide + line : line * wide + i;
         }
 
         int lineTotal(int[] heap, boolean column, int line) {
@@ -360,7 +365,8 @@ public final class CubeHeaps {
     private static final class View {
         private final Ground ground;
         private final int[] levels = new int[MOST_CELLS];
-        private final boolean[] reached = new boolean[MOST_CELLS];
+        /** The part that a cell is found to be of, counted from 1; 0: none yet. */
+        private final int[] partOf = new int[MOST_CELLS];
         private final int[] waiting = new int[MOST_CELLS];
 
         View(Ground ground) {
@@ -420,26 +426,26 @@ public final class CubeHeaps {
         }
 
         int layerParts(int[] heap, int layer) {
-            Arrays.fill(reached, false);
+            Arrays.fill(partOf, 0);
             int parts = 0;
             for (int cell = 0; cell < ground.cells(); cell++) {
-                if (heap[cell] >= layer && !reached[cell]) {
+                if (heap[cell] >= layer && partOf[cell] == 0) {
                     parts++;
-                    reachPart(heap, layer, cell);
+                    markPart(heap, layer, cell, parts);
                 }
             }
             return parts;
         }
 
-        private void reachPart(int[] heap, int layer, int start) {
+        private void markPart(int[] heap, int layer, int start, int part) {
             waiting[0] = start;
-            reached[start] = true;
+            partOf[start] = part;
             int found = 1;
             for (int i = 0; i < found && i < MOST_CELLS; i++) {
                 for (int d = 0; d < DIRECTIONS; d++) {
                     int next = ground.beside(waiting[i], d);
-                    if (next != Ground.BEYOND && heap[next] >= layer && !reached[next]) {
-                        reached[next] = true;
+                    if (next != Ground.BEYOND && heap[next] >= layer && partOf[next] == 0) {
+                        partOf[next] = part;
                         waiting[found++] = next;
                     }
                 }
@@ -549,10 +555,10 @@ public final class CubeHeaps {
         }
 
         int linesAs(int[] heap) {
-            return linesAs(heap, true) + linesAs(heap, false);
+            return putLinesAs(heap, true) + putLinesAs(heap, false);
         }
 
-        private int linesAs(int[] heap, boolean column) {
+        private int putLinesAs(int[] heap, boolean column) {
             int changed = 0;
             for (int line = 0; line < ground.lines(column); line++) {
                 int v = view.tallest(heap, column, line);
@@ -594,10 +600,10 @@ public final class CubeHeaps {
         }
 
         int linesTold() {
-            return linesTold(true) + linesTold(false);
+            return countTold(true) + countTold(false);
         }
 
-        private int linesTold(boolean column) {
+        private int countTold(boolean column) {
             int found = 0;
             for (int line = 0; line < ground.lines(column); line++) {
                 if (line(column, line) != NONE) found++;
@@ -632,6 +638,10 @@ public final class CubeHeaps {
 
         private final Ground ground;
         private final Told told;
+        /** Heights, as bits, that a cell may have; that meet its column; that meet its row. */
+        private final int[] allowed = new int[MOST_CELLS];
+        private final int[] columnMeeting = new int[MOST_CELLS];
+        private final int[] rowMeeting = new int[MOST_CELLS];
         /** By cell and state: in how many ways the cells before it come to that state. */
         private final long[][] before = new long[MOST_CELLS + 1][MOST_STATES];
         /** By cell and state that is come to: in how many ways it and the cells behind it are filled. */
@@ -645,20 +655,28 @@ public final class CubeHeaps {
             this.told = told;
         }
 
+        /** Works all out for what is told now; every other method tells of that. */
+        void refresh() {
+            if (version == told.version()) return;
+            version = told.version();
+            readTold();
+            countBefore();
+            countBehind();
+        }
+
         long all() {
-            refresh();
             return behind[0][0];
         }
 
         long having(int cell, int height) {
-            if ((allowed(cell) >> height & 1) == 0) return 0;
-            refresh();
-            int kind = kindOf(cell, height);
+            if (!has(allowed[cell], height)) return 0;
+            int met = linesMet(cell, kindOf(cell, height));
+            boolean ends = endsRow(cell);
             int states = states();
             long found = 0;
             for (int state = 0; state < states; state++) {
                 if (before[cell][state] == 0) continue;
-                int next = after(cell, state, kind);
+                int next = after(state | met, ends);
                 if (next != DEAD) found += before[cell][state] * behind[cell + 1][next];
             }
             return found;
@@ -675,7 +693,7 @@ public final class CubeHeaps {
         /** Raised to the greatest height allowed in each cell, a heap that fits still fits. */
         int mostCubes() {
             int cubes = 0;
-            for (int cell = 0; cell < ground.cells(); cell++) cubes += highestOf(allowed(cell));
+            for (int cell = 0; cell < ground.cells(); cell++) cubes += highestOf(allowed[cell]);
             return cubes;
         }
 
@@ -696,17 +714,18 @@ public final class CubeHeaps {
             int heights = heightsOf(cell, kind);
             if (heights == 0) return;
             int lowest = Integer.numberOfTrailingZeros(heights);
+            int met = linesMet(cell, kind);
+            boolean ends = endsRow(cell);
             int states = states();
             for (int state = 0; state < states; state++) {
                 if (fewest[state] == FAR) continue;
-                int next = after(cell, state, kind);
+                int next = after(state | met, ends);
                 if (next != DEAD) fewestNext[next] = Math.min(fewestNext[next], fewest[state] + lowest);
             }
         }
 
-        /** Fills a heap as the one at a place that there is. */
+        /** Fills a heap as the one at a place that there is, so that no state on the way is DEAD. */
         void fill(int[] heap, long place) {
-            refresh();
             int state = 0;
             long left = place;
             for (int cell = 0; cell < ground.cells(); cell++) {
@@ -718,33 +737,35 @@ public final class CubeHeaps {
                     ways = waysFrom(cell, state, height);
                 }
                 heap[cell] = height;
-                state = Math.max(0, after(cell, state, kindOf(cell, height)));
+                state = Math.max(0, afterHeight(cell, state, height));
             }
         }
 
-        /** How many heaps that fit come before one that fits. */
+        /** How many heaps that fit come before one that fits, so that no state on the way is DEAD. */
         long smaller(int[] heap) {
-            refresh();
             int state = 0;
             long found = 0;
             for (int cell = 0; cell < ground.cells(); cell++) {
                 for (int height = 0; height < heap[cell]; height++) found += waysFrom(cell, state, height);
-                state = Math.max(0, after(cell, state, kindOf(cell, heap[cell])));
+                state = Math.max(0, afterHeight(cell, state, heap[cell]));
             }
             return found;
         }
 
         private long waysFrom(int cell, int state, int height) {
-            if ((allowed(cell) >> height & 1) == 0) return 0;
-            int next = after(cell, state, kindOf(cell, height));
+            if (!has(allowed[cell], height)) return 0;
+            int next = afterHeight(cell, state, height);
             return next == DEAD ? 0 : behind[cell + 1][next];
         }
 
-        private void refresh() {
-            if (version == told.version()) return;
-            version = told.version();
-            countBefore();
-            countBehind();
+        private void readTold() {
+            for (int cell = 0; cell < ground.cells(); cell++) {
+                int column = told.line(true, ground.x(cell));
+                int row = told.line(false, ground.y(cell));
+                columnMeeting[cell] = meeting(column);
+                rowMeeting[cell] = meeting(row);
+                allowed[cell] = upTo(column) & upTo(row) & underTop(told.top(cell));
+            }
         }
 
         private void countBefore() {
@@ -759,11 +780,15 @@ public final class CubeHeaps {
         private void addBefore(int cell, int kind) {
             int ways = Integer.bitCount(heightsOf(cell, kind));
             if (ways == 0) return;
+            int met = linesMet(cell, kind);
+            boolean ends = endsRow(cell);
             int states = states();
+            long[] here = before[cell];
+            long[] there = before[cell + 1];
             for (int state = 0; state < states; state++) {
-                if (before[cell][state] == 0) continue;
-                int next = after(cell, state, kind);
-                if (next != DEAD) before[cell + 1][next] += ways * before[cell][state];
+                if (here[state] == 0) continue;
+                int next = after(state | met, ends);
+                if (next != DEAD) there[next] += ways * here[state];
             }
         }
 
@@ -780,11 +805,15 @@ public final class CubeHeaps {
         private void addBehind(int cell, int kind) {
             int ways = Integer.bitCount(heightsOf(cell, kind));
             if (ways == 0) return;
+            int met = linesMet(cell, kind);
+            boolean ends = endsRow(cell);
             int states = states();
+            long[] here = behind[cell];
+            long[] there = behind[cell + 1];
             for (int state = 0; state < states; state++) {
                 if (before[cell][state] == 0) continue;
-                int next = after(cell, state, kind);
-                if (next != DEAD) behind[cell][state] += ways * behind[cell + 1][next];
+                int next = after(state | met, ends);
+                if (next != DEAD) here[state] += ways * there[next];
             }
         }
 
@@ -797,44 +826,39 @@ public final class CubeHeaps {
             return states() - 1 - ROW_MET;
         }
 
-        /** The state behind a cell; DEAD, if its row ends there and is not met. */
-        private int after(int cell, int state, int kind) {
-            int next = state;
-            if ((kind & MEETS_COLUMN) != 0) next |= 2 << ground.x(cell);
-            if ((kind & MEETS_ROW) != 0) next |= ROW_MET;
-            if (ground.x(cell) < ground.lines(true) - 1) return next;
-            return (next & ROW_MET) == 0 ? DEAD : next - ROW_MET;
+        /** The state behind a cell, from all that is met with it; DEAD, if its row ends and is not met. */
+        private static int after(int met, boolean endsRow) {
+            if (!endsRow) return met;
+            return (met & ROW_MET) == 0 ? DEAD : met - ROW_MET;
+        }
+
+        private int afterHeight(int cell, int state, int height) {
+            return after(state | linesMet(cell, kindOf(cell, height)), endsRow(cell));
+        }
+
+        private int linesMet(int cell, int kind) {
+            return ((kind & MEETS_COLUMN) != 0 ? 2 << ground.x(cell) : 0)
+                | ((kind & MEETS_ROW) != 0 ? ROW_MET : 0);
+        }
+
+        private boolean endsRow(int cell) {
+            return ground.x(cell) == ground.lines(true) - 1;
         }
 
         private int kindOf(int cell, int height) {
-            int kind = 0;
-            if ((meeting(columnTold(cell)) >> height & 1) != 0) kind |= MEETS_COLUMN;
-            if ((meeting(rowTold(cell)) >> height & 1) != 0) kind |= MEETS_ROW;
-            return kind;
+            return (has(columnMeeting[cell], height) ? MEETS_COLUMN : 0)
+                | (has(rowMeeting[cell], height) ? MEETS_ROW : 0);
         }
 
         /** The heights, as bits, that a cell may have and that are of a kind. */
         private int heightsOf(int cell, int kind) {
-            int column = meeting(columnTold(cell));
-            int row = meeting(rowTold(cell));
-            return allowed(cell)
-                & ((kind & MEETS_COLUMN) != 0 ? column : ~column)
-                & ((kind & MEETS_ROW) != 0 ? row : ~row);
+            return allowed[cell]
+                & ((kind & MEETS_COLUMN) != 0 ? columnMeeting[cell] : ~columnMeeting[cell])
+                & ((kind & MEETS_ROW) != 0 ? rowMeeting[cell] : ~rowMeeting[cell]);
         }
 
-        /** The heights, as bits, that neither a line nor the top forbids to a cell. */
-        private int allowed(int cell) {
-            int heights = upTo(columnTold(cell)) & upTo(rowTold(cell));
-            if (told.top(cell) == 0) return heights & 1;
-            return told.top(cell) == 1 ? heights & ~1 : heights;
-        }
-
-        private int columnTold(int cell) {
-            return told.line(true, ground.x(cell));
-        }
-
-        private int rowTold(int cell) {
-            return told.line(false, ground.y(cell));
+        private static boolean has(int heights, int height) {
+            return (heights >> height & 1) != 0;
         }
 
         private static int meeting(int v) {
@@ -843,6 +867,11 @@ public final class CubeHeaps {
 
         private static int upTo(int v) {
             return v == NONE ? ALL_HEIGHTS : (2 << v) - 1;
+        }
+
+        private static int underTop(int v) {
+            if (v == NONE) return ALL_HEIGHTS;
+            return v == 0 ? 1 : ALL_HEIGHTS - 1;
         }
 
         private static int highestOf(int heights) {
@@ -868,7 +897,9 @@ public final class CubeHeaps {
         private final int[] high = new int[MOST_CELLS];
         /** How many ways may still end in each node. */
         private final int[] open = new int[NODES];
+        /** How the search came to each node: from which one, over which cell. */
         private final int[] cameFrom = new int[NODES];
+        private final int[] cameOver = new int[NODES];
         private final int[] waiting = new int[NODES];
 
         Sums(Ground ground, Told told) {
@@ -992,9 +1023,8 @@ public final class CubeHeaps {
             open[end]--;
             int node = end;
             for (int i = 0; i < NODES && node != start; i++) {
-                int previous = cameFrom[node];
-                made[cellBetween(previous, node)] += isColumn(node) ? 1 : -1;
-                node = previous;
+                made[cameOver[node]] += isColumn(node) ? 1 : -1;
+                node = cameFrom[node];
             }
             return true;
         }
@@ -1006,11 +1036,15 @@ public final class CubeHeaps {
             int found = 1;
             for (int i = 0; i < found && i < NODES; i++) {
                 int node = waiting[i];
-                int first = isColumn(node) ? 0 : FIRST_COLUMN;
-                int end = first + ground.lines(!isColumn(node));
-                for (int next = first; next < end; next++) {
-                    if (cameFrom[next] != NOWHERE || !passes(node, next)) continue;
+                boolean column = isColumn(node);
+                int line = column ? node - FIRST_COLUMN : node;
+                int first = column ? 0 : FIRST_COLUMN;
+                for (int far = 0; far < ground.length(column); far++) {
+                    int next = first + far;
+                    int cell = ground.onLine(column, line, far);
+                    if (cameFrom[next] != NOWHERE || !passes(column, cell)) continue;
                     cameFrom[next] = node;
+                    cameOver[next] = cell;
                     if (open[next] > 0) return next;
                     waiting[found++] = next;
                 }
@@ -1018,17 +1052,13 @@ public final class CubeHeaps {
             return NOWHERE;
         }
 
-        private boolean passes(int node, int next) {
-            int cell = cellBetween(node, next);
-            return isColumn(next) ? made[cell] < high[cell] : made[cell] > low[cell];
+        /** From a column a way lessens a cell, from a row it raises one. */
+        private boolean passes(boolean fromColumn, int cell) {
+            return fromColumn ? made[cell] > low[cell] : made[cell] < high[cell];
         }
 
         private static boolean isColumn(int node) {
             return node >= FIRST_COLUMN;
-        }
-
-        private int cellBetween(int node, int next) {
-            return isColumn(node) ? ground.at(node - FIRST_COLUMN, next) : ground.at(next - FIRST_COLUMN, node);
         }
     }
 
