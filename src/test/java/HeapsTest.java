@@ -29,7 +29,6 @@ public final class HeapsTest {
     }
 
     private static void ground() {
-        CubeHeaps fresh = new CubeHeaps();
         for (int w = 1; w <= 5; w++) {
             for (int h = 1; h <= 5; h++) {
                 CubeHeaps x = new CubeHeaps();
@@ -43,8 +42,7 @@ public final class HeapsTest {
                 check.due("about(0)", x.about(0), w);
                 check.due("about(1)", x.about(1), h);
                 check.due("about(4)", x.about(4), w * h);
-                fresh.ground(w, h);
-                check.holds("ground forgets all", Check.state(x).equals(Check.state(fresh)));
+                check.holds("ground forgets all", Check.state(x).equals(Check.state(Check.on(w, h))));
                 check.holds("ground forgets all, seen when it becomes large again", forgotWhenLarge(x));
             }
         }
@@ -52,10 +50,8 @@ public final class HeapsTest {
     }
 
     private static boolean forgotWhenLarge(CubeHeaps x) {
-        CubeHeaps fresh = new CubeHeaps();
-        fresh.ground(5, 5);
         x.ground(5, 5);
-        return Check.state(x).equals(Check.state(fresh));
+        return Check.state(x).equals(Check.state(Check.on(5, 5)));
     }
 
     private static void groundRefuses() {

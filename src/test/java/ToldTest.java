@@ -177,14 +177,19 @@ public final class ToldTest {
         check.due("count(false), none fits", x.count(false), NONE);
     }
 
-    private static void layAndPlace() {
+    private static CubeHeaps someFit() {
         CubeHeaps x = on(3, 2);
         x.tell(true, 0, 2);
         x.tell(false, 1, 1);
         x.tellTop(1, 1);
-        long heaps = x.heaps();
+        return x;
+    }
+
+    private static void layAndPlace() {
+        long heaps = someFit().heaps();
         String last = "";
         for (long place = 0; place < heaps; place++) {
+            CubeHeaps x = someFit();
             int cubes = x.lay(1, place);
             String heights = Check.heights(x, 1);
             check.due("the cubes of lay(1, " + place + ")", cubes, x.cubes(1));
@@ -193,6 +198,7 @@ public final class ToldTest {
             check.holds("heaps are in order", heights.compareTo(last) > 0);
             last = heights;
         }
+        CubeHeaps x = someFit();
         String was = Check.state(x);
         check.due("lay at the first place behind", x.lay(1, heaps), OUTSIDE);
         check.due("lay(1, -1)", x.lay(1, -1), OUTSIDE);
