@@ -31,6 +31,7 @@ public final class EdgeSumsTest {
         spanSumsIsTheLeastAndTheGreatest();
         spanSumsIsNone();
         spanSumsRefuses();
+        askedAgainItIsTheSame();
         check.end();
     }
 
@@ -140,6 +141,15 @@ public final class EdgeSumsTest {
         CubeHeaps full = sums(all(5, 20), all(5, 20));
         for (int cell = 0; cell < 25; cell++) full.tellTop(cell, 1);
         check.due("a full one has all", full.bySums(), 1);
+        CubeHeaps column = sums(new int[] {2, 0}, new int[] {1, 1});
+        column.tellTop(1, 1);
+        check.due("in a column of 0, though as many stand in both", column.bySums(), 0);
+        CubeHeaps row = sums(new int[] {1, 1}, new int[] {2, 0});
+        row.tellTop(2, 1);
+        check.due("in a row of 0, though as many stand in both", row.bySums(), 0);
+        CubeHeaps first = sums(new int[] {0, 2}, new int[] {1, 1});
+        first.tellTop(2, 1);
+        check.due("in the first column, of 0", first.bySums(), 0);
     }
 
     private static void frontsAndSidesDoNotBind() {
@@ -351,10 +361,16 @@ public final class EdgeSumsTest {
         check.due("the greatest", x.spanSums(0, true), 4);
         check.due("the least of cell 2", x.spanSums(2, false), 3);
         CubeHeaps y = sums(new int[] {5, 3}, new int[] {5, 3});
-        check.due("the least of cell 0", y.spanSums(0, false), 2);
-        check.due("the greatest of cell 0", y.spanSums(0, true), 4);
-        check.due("the least of cell 3", y.spanSums(3, false), 0);
-        check.due("the greatest of cell 3", y.spanSums(3, true), 2);
+        int[] least = {2, 1, 1, 0};
+        for (int cell = 0; cell < 4; cell++) {
+            check.due("the least of cell " + cell, y.spanSums(cell, false), least[cell]);
+            check.due("the greatest of cell " + cell, y.spanSums(cell, true), least[cell] + 2);
+        }
+        CubeHeaps wide = sums(all(5, 8), all(5, 8));
+        for (int cell = 0; cell < 25; cell++) {
+            check.due("the least of " + cell + ", others can hold all", wide.spanSums(cell, false), 0);
+            check.due("the greatest of " + cell + ", others can be 0", wide.spanSums(cell, true), 4);
+        }
         check.leaves("spanSums(3, true)", () -> sums(new int[] {5, 3}, new int[] {5, 3}), b -> b.spanSums(3, true), 2);
     }
 
@@ -378,5 +394,19 @@ public final class EdgeSumsTest {
         }
         check.due("spanSums(25, true) of 5 by 5", Check.on(5, 5).spanSums(25, true), UNKNOWN);
         check.due("spanSums(1, true) of one cell", Check.on(1, 1).spanSums(1, true), UNKNOWN);
+    }
+
+    private static void askedAgainItIsTheSame() {
+        check.sentence("Promises 27 to 29: what was asked ahead changes no answer");
+        CubeHeaps x = sums(new int[] {1, 1}, new int[] {1, 1});
+        x.tellTop(3, 0);
+        for (int cell = 0; cell < 4; cell++) {
+            int only = cell == 1 || cell == 2 ? 1 : 0;
+            check.due("spanSums(" + cell + ", true)", x.spanSums(cell, true), only);
+            check.due("laySums(0) behind it", x.laySums(0), 2);
+            check.slotIs(x, 0, "01 10");
+            check.due("spanSums(" + cell + ", false)", x.spanSums(cell, false), only);
+            check.due("bySums() behind it", x.bySums(), 1);
+        }
     }
 }

@@ -26,6 +26,7 @@ public final class EdgeToldTest {
         heapsWhenAllIsTold();
         heapsOfOneLine();
         heapsAreBoundByTheToldAlone();
+        heapsOfAGroundAfterAnother();
         withCountsAHeight();
         withRefusesUnknownFirst();
         spanIsTheLeastAndTheGreatest();
@@ -306,6 +307,29 @@ public final class EdgeToldTest {
         check.leaves("heaps()", () -> Check.busy(1, 1), CubeHeaps::heaps, 1);
     }
 
+    private static void heapsOfAGroundAfterAnother() {
+        check.sentence("Promise 19: how many were counted ahead changes no answer");
+        CubeHeaps x = Check.on(1, 5);
+        check.due("heaps() of 1 by 5", x.heaps(), 3125);
+        x.tell(true, 0, 0);
+        x.ground(2, 3);
+        check.due("heaps() of 2 by 3", x.heaps(), 15625);
+        x.ground(5, 1);
+        check.due("heaps() of 5 by 1", x.heaps(), 3125);
+        for (int column = 0; column < 5; column++) x.tell(true, column, 1);
+        check.due("all FRONTS told", x.heaps(), 1);
+        x.ground(1, 5);
+        for (int row = 0; row < 5; row++) x.tell(false, row, 2);
+        check.due("all SIDES told", x.heaps(), 1);
+        x.ground(1, 4);
+        check.due("heaps() of 1 by 4", x.heaps(), 625);
+        x.ground(2, 2);
+        check.due("heaps() of 2 by 2, as many cells", x.heaps(), 625);
+        x.tell(true, 0, 0);
+        x.tell(true, 1, 4);
+        check.due("both FRONTS told", x.heaps(), 9);
+    }
+
     private static void withCountsAHeight() {
         check.sentence("Promise 20: How many of these have a HEIGHT in a CELL");
         for (int height = 0; height <= 4; height++) {
@@ -456,6 +480,26 @@ public final class EdgeToldTest {
         CubeHeaps column = Check.on(1, 2);
         column.lay(0, 7);
         check.slotIs(column, 0, "1 2");
+        CubeHeaps square = Check.on(2, 2);
+        Check.level(square, 0, 1);
+        square.tellAs(0, false);
+        String[] ones = {"01 10", "01 11", "10 01", "10 11", "11 01", "11 10", "11 11"};
+        check.due("heaps(), a 1 in each line", square.heaps(), ones.length);
+        for (int place = 0; place < ones.length; place++) {
+            square.lay(1, place);
+            check.slotIs(square, 1, ones[place]);
+            check.due("place(1)", square.place(1), place);
+        }
+        Check.heap(square, 0, "01 22");
+        square.tellAs(0, false);
+        square.tell(true, 0, 2);
+        String[] low = {"01 22", "10 22", "11 22"};
+        check.due("heaps(), a row below all FRONTS", square.heaps(), low.length);
+        for (int place = 0; place < low.length; place++) {
+            square.lay(1, place);
+            check.slotIs(square, 1, low[place]);
+            check.due("place(1)", square.place(1), place);
+        }
     }
 
     private static void layTakesPlacesThatAre() {
