@@ -444,7 +444,8 @@ public final class CubeHeaps {
             for (int i = 0; i < found && i < MOST_CELLS; i++) {
                 for (int d = 0; d < DIRECTIONS; d++) {
                     int next = ground.beside(waiting[i], d);
-                    if (next != Ground.BEYOND && heap[next] >= layer && partOf[next] == 0) {
+                    if (next == Ground.BEYOND || found >= MOST_CELLS) continue;
+                    if (heap[next] >= layer && partOf[next] == 0) {
                         partOf[next] = part;
                         waiting[found++] = next;
                     }
@@ -1022,7 +1023,7 @@ public final class CubeHeaps {
             if (end == NOWHERE) return false;
             open[end]--;
             int node = end;
-            for (int i = 0; i < NODES && node != start; i++) {
+            for (int i = 0; i < NODES && node != start && node != NOWHERE; i++) {
                 made[cameOver[node]] += isColumn(node) ? 1 : -1;
                 node = cameFrom[node];
             }
@@ -1042,7 +1043,7 @@ public final class CubeHeaps {
                 for (int far = 0; far < ground.length(column); far++) {
                     int next = first + far;
                     int cell = ground.onLine(column, line, far);
-                    if (cameFrom[next] != NOWHERE || !passes(column, cell)) continue;
+                    if (cameFrom[next] != NOWHERE || found >= NODES || !passes(column, cell)) continue;
                     cameFrom[next] = node;
                     cameOver[next] = cell;
                     if (open[next] > 0) return next;
@@ -1075,7 +1076,8 @@ public final class CubeHeaps {
         private final int[] surplus = new int[MOST_CELLS];
         private final int[] carried = new int[MOST_CELLS * DIRECTIONS];
         private final int[] steps = new int[MOST_CELLS];
-        /** The direction in which a shortest way came to a cell; NOWHERE: it starts there. */
+        /** How a shortest way came to each cell: from which one (from itself: it starts there), in which direction. */
+        private final int[] cameFrom = new int[MOST_CELLS];
         private final int[] cameBy = new int[MOST_CELLS];
 
         Carrying(Ground ground) {
@@ -1109,7 +1111,7 @@ public final class CubeHeaps {
         private void findWays() {
             for (int cell = 0; cell < ground.cells(); cell++) {
                 steps[cell] = surplus[cell] > 0 ? 0 : FAR;
-                cameBy[cell] = NOWHERE;
+                cameFrom[cell] = cell;
             }
             boolean nearer = true;
             for (int round = 0; round < MOST_CELLS && nearer; round++) {
@@ -1128,6 +1130,7 @@ public final class CubeHeaps {
                 int there = steps[cell] + (carriedBack(next, d) > 0 ? -1 : 1);
                 if (there < steps[next]) {
                     steps[next] = there;
+                    cameFrom[next] = cell;
                     cameBy[next] = d;
                     nearer = true;
                 }
@@ -1149,18 +1152,13 @@ public final class CubeHeaps {
             return nearest;
         }
 
-        /** The cell ahead of one on its shortest way. */
-        private int previous(int cell) {
-            return ground.beside(cell, cameBy[cell] ^ 2);
-        }
-
         private int amountTo(int end) {
             int amount = -surplus[end];
             int cell = end;
-            for (int i = 0; i < MOST_CELLS && cameBy[cell] != NOWHERE; i++) {
+            for (int i = 0; i < MOST_CELLS && cameFrom[cell] != cell; i++) {
                 int back = carriedBack(cell, cameBy[cell]);
                 if (back > 0) amount = Math.min(amount, back);
-                cell = previous(cell);
+                cell = cameFrom[cell];
             }
             return Math.min(amount, surplus[cell]);
         }
@@ -1168,9 +1166,9 @@ public final class CubeHeaps {
         /** Carries cubes along the way that ends in a cell, and answers where it starts. */
         private int carryAlong(int end, int amount) {
             int cell = end;
-            for (int i = 0; i < MOST_CELLS && cameBy[cell] != NOWHERE; i++) {
+            for (int i = 0; i < MOST_CELLS && cameFrom[cell] != cell; i++) {
                 int direction = cameBy[cell];
-                int previous = previous(cell);
+                int previous = cameFrom[cell];
                 if (carriedBack(cell, direction) > 0) carried[cell * DIRECTIONS + (direction ^ 2)] -= amount;
                 else carried[previous * DIRECTIONS + direction] += amount;
                 cell = previous;
