@@ -9,6 +9,7 @@ import java.util.HashMap;
 import java.util.HashSet;
 import java.util.Map;
 import java.util.Set;
+import java.util.regex.Matcher;
 import java.util.regex.Pattern;
 
 /** The class has the document's face and nothing more, and its text keeps to plain rules of LANGUAGE.md. */
@@ -28,6 +29,10 @@ public final class FaceTest {
 
     private static final String[] FORBIDDEN = {"throw", "throws", "try", "catch", "synchronized", "assert",
         "package", "protected", "new Object", "->", "::", "Exact\\(", "System\\.(?!arraycopy)"};
+
+    private static final Set<String> LIBRARY = Set.of("Arrays.fill", "Math.max", "Math.min", "Integer.bitCount",
+        "Integer.numberOfLeadingZeros", "Integer.numberOfTrailingZeros");
+    private static final int MOST_LINES = 60;
 
     public static void main(String[] args) throws IOException {
         members();
@@ -82,6 +87,7 @@ public final class FaceTest {
         for (Method method : CubeHeaps.class.getMethods()) publicNames.add(method.getName());
         Class<?>[] nested = CubeHeaps.class.getDeclaredClasses();
         check.holds("there are at most twelve classes", nested.length < 12);
+        check.holds("the class has at most twenty fields", instanceFields(CubeHeaps.class) <= 20);
         for (Class<?> one : nested) {
             check.holds(one + " is static", Modifier.isStatic(one.getModifiers()));
             check.holds(one + " has at most twenty fields", instanceFields(one) <= 20);
@@ -111,5 +117,31 @@ public final class FaceTest {
         }
         check.holds("it uses nothing but Arrays",
             code.replace("import java.util.Arrays;", "").indexOf("import ") < 0 && !code.contains("java.lang"));
+        check.holds("it has no texts", code.indexOf('"') < 0);
+        libraryCalls(code);
+        methodLengths(code);
+    }
+
+    /** Static calls are those of the class's own classes and of the library that rule 4 names. */
+    private static void libraryCalls(String code) {
+        Set<String> own = new HashSet<>();
+        for (Class<?> one : CubeHeaps.class.getDeclaredClasses()) own.add(one.getSimpleName());
+        Matcher call = Pattern.compile("\\b([A-Z]\\w*)\\.(\\w+)\\(").matcher(code);
+        while (call.find()) {
+            String name = call.group(1) + "." + call.group(2);
+            check.holds("rule 4 names " + name, own.contains(call.group(1)) || LIBRARY.contains(name));
+        }
+    }
+
+    /** Rule 11: a method has some sixty lines at most; it starts and ends at the same depth. */
+    private static void methodLengths(String code) {
+        Matcher method = Pattern.compile("(?ms)^( {4}| {8})(?! |for|if|while|switch)[^\n=]*\\) \\{\n(.*?)^\\1\\}").matcher(code);
+        int found = 0;
+        while (method.find()) {
+            found++;
+            int lines = method.group(2).split("\n").length;
+            check.holds("a method of " + lines + " lines is short: " + method.group(2), lines <= MOST_LINES);
+        }
+        check.holds("the methods were found, so many: " + found, found > FACE.length);
     }
 }
